@@ -6,6 +6,7 @@ public final class StreamWatcher {
     private static final int SYMBOLS = 4;
     private static final int PATTERNS = 4;
     private static final int MOST_ITEMS = 6;
+    private static final int ALL_ITEMS = PATTERNS * MOST_ITEMS;
     private static final int MOST_TAKEN = 60;
     private static final int GREATEST_SET = 15;
 
@@ -15,8 +16,8 @@ public final class StreamWatcher {
     private static final int SOME = 3;
 
     // Item k of pattern p lies at p * MOST_ITEMS + k, since arrays have one dimension.
-    private final int[] sets = new int[PATTERNS * MOST_ITEMS];
-    private final int[] counts = new int[PATTERNS * MOST_ITEMS];
+    private final int[] sets = new int[ALL_ITEMS];
+    private final int[] counts = new int[ALL_ITEMS];
     private final int[] lengths = new int[PATTERNS];
     private final int[] stream = new int[MOST_TAKEN];
     private int size = 0;

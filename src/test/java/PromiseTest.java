@@ -276,6 +276,9 @@ public final class PromiseTest {
         for (int p : NOT_0_TO_3) {
             due(10, "firstEnd(" + p + ")", x.firstEnd(p), NONE);
         }
+        x.reset();
+        pushAll(x, 3, 3);
+        due(10, "firstEnd(2), a forgotten end just past the stream", x.firstEnd(2), NONE);
     }
 
     /** Pattern 0 begins at 1, 2 and 4 where it ends at 5; pattern 1 nowhere; pattern 2 everywhere. */
@@ -319,6 +322,27 @@ public final class PromiseTest {
             due(12, "latest(" + p + ", 5)", x.latest(p, 5), NONE);
             due(12, "latest(" + p + ", 99)", x.latest(p, 99), NONE);
         }
+        StreamWatcher first = with(1, ONCE, 14, ANY);
+        first.push(0);
+        due(12, "latest(0, 0)", first.latest(0, 0), 0);
+        for (int t = 1; t < 60; t++) {
+            first.push(t % 3 + 1);
+            due(12, "latest(0, " + t + ") of a match from place 0", first.latest(0, t), 0);
+        }
+        farBeginnings();
+    }
+
+    /** Places above 31, where a mask of 32 bits would not do. */
+    private static void farBeginnings() {
+        StreamWatcher x = with(1, SOME);
+        for (int t = 0; t < 60; t++) {
+            x.push(t < 40 ? 1 : 0);
+        }
+        for (int t = 40; t < 60; t++) {
+            due(11, "earliest(0, " + t + ")", x.earliest(0, t), 40);
+            due(12, "latest(0, " + t + ")", x.latest(0, t), t);
+        }
+        due(13, "longest(0)", x.longest(0), 20);
     }
 
     private static void longest() {

@@ -177,8 +177,8 @@ public final class StreamWatcher {
     // taken, even place 60, without touching the stream.
     //
     // The span is read from its end to its beginning, because then one pass meets every beginning.
-    // States are a mask: bit k says that what was read can be the part of a fitting row that
-    // falls to the items from k on, so that the items before k have still to be fitted.
+    // States are a mask: bit k says that a row fitting the first k items, put before what was
+    // read, would make a row fitting the whole pattern; so bit 0 says that what was read fits it.
     private long beginnings(int p, int t, int s) {
         int states = unreadStates(p);
         states = statesBefore(p, states, s);
@@ -202,8 +202,7 @@ public final class StreamWatcher {
             int at = p * MOST_ITEMS + k - 1;
             if ((states >> k & 1) != 0 && (sets[at] >> s & 1) != 0) {
                 before |= 1 << (k - 1);
-                // Staying at k leaves the item to be fitted again: by one symbol more or, for
-                // ANY, by none.
+                // A row that fits an item of these counts still fits it with one symbol more.
                 if (counts[at] == ANY || counts[at] == SOME) {
                     before |= 1 << k;
                 }

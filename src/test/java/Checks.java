@@ -19,6 +19,10 @@ final class Checks {
         }
     }
 
+    int made() {
+        return made;
+    }
+
     void end() {
         System.out.println(made + " checks, " + wrong + " wrong");
         if (wrong != 0) {
